@@ -413,22 +413,23 @@ public final class TollsThatPay {
 
     public int last(int road) {
         int slot = land.roads.slotAt(road);
-        if (slot < 0 || !canSeek(land.roads.house[road])) {
+        int house = land.roads.houseOf(road);
+        if (slot < 0 || !canSeek(house)) {
             return NONE;
         }
         openNow();
-        int house = land.roads.house[road];
         return market.bestOf(house) - study.bestWithFree(house, 1 << slot);
     }
 
     public int fair(int road) {
         int slot = land.roads.slotAt(road);
-        if (slot < 0 || !canSeek(land.roads.house[road])) {
+        int house = land.roads.houseOf(road);
+        if (slot < 0 || !canSeek(house)) {
             return NONE;
         }
         openNow();
-        int upper = study.growths(land.roads.house[road], slot);
-        int lower = Study.orders(Integer.bitCount(land.roads.sideOf(land.roads.house[road])));
+        int upper = study.growths(house, slot);
+        int lower = Study.orders(Integer.bitCount(land.roads.sideOf(house)));
         int common = Study.commonPart(upper, lower);
         if (common <= 0 || lower <= 0) {
             return NONE;
@@ -486,7 +487,7 @@ public final class TollsThatPay {
     private boolean isAnyWeight() {
         boolean any = false;
         for (int w = 0; w < weights.length; w++) {
-            any |= weights[w] > 0;
+            any = any || weights[w] > 0;
         }
         return any;
     }
@@ -535,7 +536,7 @@ public final class TollsThatPay {
         int tolled;
         int cap = 6;
         private int closed;
-        final int[] house = new int[MOST];
+        private final int[] house = new int[MOST];
         final int[] tolls = new int[MOST_TOLLED];
         private final int[] from = new int[MOST];
         private final int[] to = new int[MOST];
@@ -602,6 +603,10 @@ public final class TollsThatPay {
             return s < MOST_TOLLED ? s : NONE;
         }
 
+        int houseOf(int road) {
+            return has(road) ? house[road] : NONE;
+        }
+
         int costOf(int road) {
             return has(road) ? cost[road] : 0;
         }
@@ -627,7 +632,7 @@ public final class TollsThatPay {
             int side = 0;
             for (int s = 0; s < tolled && s < MOST_TOLLED; s++) {
                 int road = roadAt[s];
-                if (has(road) && house[road] == owner && isOpen(road)) {
+                if (houseOf(road) == owner && isOpen(road)) {
                     side |= 1 << s;
                 }
             }
@@ -717,11 +722,11 @@ public final class TollsThatPay {
             size++;
         }
 
-        void worthsOfLatest(int first, int final_, boolean isCrowd) {
+        void worthsOfLatest(int lowest, int highest, boolean isCrowd) {
             int j = size - 1;
             if (has(j)) {
-                low[j] = first;
-                high[j] = final_;
+                low[j] = lowest;
+                high[j] = highest;
                 crowd[j] = isCrowd ? 1 : 0;
             }
         }
@@ -1040,6 +1045,7 @@ public final class TollsThatPay {
     static final class Goers {
         static final int MOST = 48;
         static final int MASKS = 32;
+        private static final int MOST_PAIN = 2147483647;
 
         int size;
         private Journeys journeys;
@@ -1056,6 +1062,8 @@ public final class TollsThatPay {
         /** Ways that some tolls may lead to, by rank: base above mask. */
         private final int[] list = new int[MOST * MASKS];
         private final int[] listed = new int[MOST];
+        /** The slots that listed ways lead over. */
+        private final int[] reach = new int[MOST];
 
         Goers(Journeys none) {
             journeys = none;
@@ -1074,7 +1082,7 @@ public final class TollsThatPay {
                 walk(this, trip, journeys.fromOf(j), 0);
                 int home = journeys.homeOf(j);
                 ways[j] = trip.found + (home >= 0 ? 1 : 0);
-                fits &= ways[j] <= Trip.ENOUGH;
+                fits = fits && ways[j] <= Trip.ENOUGH;
                 settle(home, ways[j], land.roads.cap);
             }
             return fits;
@@ -1136,6 +1144,7 @@ public final class TollsThatPay {
                     offer(g, 0, 0, 0);
                 }
                 listed[g] = 0;
+                reach[g] = 0;
                 for (int m = 0; m < MASKS; m++) {
                     if (base[g * MASKS + m] >= 0 && !isBeaten(g * MASKS, m, cap)) {
                         insert(g, m);
@@ -1176,6 +1185,7 @@ public final class TollsThatPay {
             }
             list[i] = base[start + mask] << 8 | mask;
             listed[g]++;
+            reach[g] |= mask;
         }
 
         boolean has(int g) {
@@ -1209,6 +1219,10 @@ public final class TollsThatPay {
             return has(g) && journeys.isCrowd(journey[g]);
         }
 
+        boolean mayPay(int g, int side) {
+            return has(g) && (reach[g] & side) != 0;
+        }
+
         int baseOf(int g, int mask) {
             return has(g) ? base[g * MASKS + (mask & MASKS - 1)] : NONE;
         }
@@ -1226,7 +1240,7 @@ public final class TollsThatPay {
                 return 0;
             }
             int start = g * MASKS;
-            int least = Integer.MAX_VALUE;
+            int least = MOST_PAIN;
             int mask = 0;
             for (int i = start; i < start + listed[g] && i < list.length; i++) {
                 int p = list[i];
@@ -1243,7 +1257,7 @@ public final class TollsThatPay {
             int order = rankOf(g, mask);
             boolean found = false;
             for (int i = (order >>> 28) - 1; i >= 0; i--) {
-                found |= (order >>> 4 * i & 15) == road;
+                found = found || (order >>> 4 * i & 15) == road;
             }
             return found;
         }
@@ -1264,6 +1278,8 @@ public final class TollsThatPay {
         final int[] tolls = new int[Roads.MOST_TOLLED];
         final int[] sum = new int[Goers.MASKS];
         final int[] worse = new int[Goers.MASKS];
+        /** How many slots there are roads for: no way has a mask of others. */
+        int slots;
         private int moved;
         private int cap;
         private int factor;
@@ -1276,23 +1292,26 @@ public final class TollsThatPay {
             for (int s = 0; s < tolls.length; s++) {
                 tolls[s] = (moved >> s & 1) != 0 || s >= from.length ? 0 : from[s];
             }
-            reckon();
+            reckon(0);
             return Roads.powerOf(cap + 1, Integer.bitCount(moved & Goers.MASKS - 1));
         }
 
         void next() {
+            int lowest = tolls.length;
             boolean carry = true;
             for (int s = tolls.length - 1; s >= 0 && carry; s--) {
                 if ((moved >> s & 1) != 0) {
                     carry = tolls[s] >= cap;
                     tolls[s] = carry ? 0 : tolls[s] + 1;
+                    lowest = s;
                 }
             }
-            reckon();
+            reckon(lowest);
         }
 
-        private void reckon() {
-            for (int s = 0; s < tolls.length; s++) {
+        /** Sums of masks whose highest slot is below the first changed one stay as they are. */
+        private void reckon(int changed) {
+            for (int s = changed; s >= 0 && s < slots && s < tolls.length; s++) {
                 int bit = 1 << s;
                 for (int m = 0; m < bit && bit + m < sum.length; m++) {
                     sum[bit + m] = sum[m] + tolls[s];
@@ -1334,6 +1353,7 @@ public final class TollsThatPay {
         void open(Roads land, int how) {
             roads = land;
             lean = how;
+            sets.slots = land.tolled;
             for (int g = 0; g < goers.size && g < share.length; g++) {
                 share[g] = goers.manyOf(g);
             }
@@ -1390,7 +1410,7 @@ public final class TollsThatPay {
         int brought(int side) {
             int sum = 0;
             for (int g = 0; g < goers.size && g < share.length; g++) {
-                if (share[g] != 0) {
+                if (share[g] != 0 && goers.mayPay(g, side)) {
                     sum += share[g] * sets.sumOf(choice(g) & side);
                 }
             }
@@ -1766,7 +1786,7 @@ public final class TollsThatPay {
         private boolean wasBehind(int i) {
             boolean was = false;
             for (int k = i - 2; k >= 0 && i < behind.length; k -= 2) {
-                was |= behind[k] == behind[i];
+                was = was || behind[k] == behind[i];
             }
             return was;
         }
