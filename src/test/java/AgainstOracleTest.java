@@ -1100,6 +1100,27 @@ public final class AgainstOracleTest {
         return s.length() > 100 ? s.substring(0, 100) : s.toString();
     }
 
+    /** Two bridges side by side: houses that undercut each other, with rings and rests. */
+    static String duelText(Random r) {
+        StringBuilder s = new StringBuilder("tab" + r.nextInt(3) + ";uab" + r.nextInt(3) + ";rab" + (2 + r.nextInt(6)));
+        if (r.nextInt(2) == 0) s.append(";m" + (2 + r.nextInt(6)));
+        if (r.nextInt(3) == 0) s.append(r.nextBoolean() ? ";tab1" : ";ubc1;rbc4;jac*1");
+        for (int i = 1 + r.nextInt(2); i > 0; i--) s.append(";jab*" + (1 + r.nextInt(4)) + (r.nextInt(3) == 0 ? "s" + (1 + r.nextInt(2)) : ""));
+        return s.toString();
+    }
+
+    /** Many roads and few tolls, so that there are many ways and draws among them. */
+    static String denseText(Random r) {
+        StringBuilder s = new StringBuilder("m" + (1 + r.nextInt(2)));
+        int corners = 4 + r.nextInt(2);
+        for (int i = 0; i < 11; i++) {
+            char a = (char) ('a' + r.nextInt(corners));
+            char b = (char) ('a' + (a - 'a' + 1 + r.nextInt(corners - 1)) % corners);
+            s.append(';').append("rrrttu".charAt(i < 6 ? i : 0)).append(a).append(b).append(r.nextInt(3));
+        }
+        return s.substring(0, Math.min(s.length(), 60));
+    }
+
     static int wrong = 0;
 
     static void same(int seed, List<String> run, String call, long got, long due) {
@@ -1130,6 +1151,8 @@ public final class AgainstOracleTest {
         List<String> run = new ArrayList<>();
         int corners = 2 + r.nextInt(r.nextInt(5) == 0 ? 7 : 4);
         int most = r.nextInt(4) == 0 ? 5 : 3;
+        if (seed % 4 == 1) tellBoth(seed, run, x, o, duelText(r));
+        if (seed % 8 == 2) tellBoth(seed, run, x, o, denseText(r));
         tellBoth(seed, run, x, o, randomText(r, corners));
         for (int i = 0; i < 60; i++) {
             if (r.nextInt(12) == 0) {
