@@ -1411,7 +1411,7 @@ public final class TollsThatPay {
             int sum = 0;
             for (int g = 0; g < goers.size && g < share.length; g++) {
                 if (share[g] != 0 && goers.mayPay(g, side)) {
-                    sum += share[g] * sets.sumOf(choice(g) & side);
+                    sum += share[g] * sets.sumOf(goers.choice(g, sets.worse) & side);
                 }
             }
             return sum;

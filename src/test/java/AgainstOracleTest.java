@@ -1,3 +1,6 @@
+import java.lang.reflect.InvocationTargetException;
+import java.lang.reflect.Method;
+import java.lang.reflect.Modifier;
 import java.util.ArrayList;
 import java.util.Arrays;
 import java.util.List;
@@ -956,107 +959,35 @@ public final class AgainstOracleTest {
         "ties", "bound", "given", "above", "line", "bends", "climb", "gap", "times", "answers", "rests", "spare", "ceiling",
         "without", "ford", "weight", "mean", "safe", "learn", "last", "fair", "count", "of", "row"};
 
-    static int ask(TollsThatPay x, String name, int[] a) {
-        switch (name) {
-            case "toll": return x.toll(a[0], a[1]);
-            case "lean": return x.lean(a[0]);
-            case "way": return x.way(a[0], a[1]);
-            case "pains": return x.pains(a[0], a[1]);
-            case "room": return x.room(a[0], a[1]);
-            case "take": return x.take(a[0]);
-            case "suffered": return x.suffered();
-            case "by": return x.by(a[0]);
-            case "ways": return x.ways(a[0]);
-            case "best": return x.best(a[0]);
-            case "set": return x.set(a[0]);
-            case "ties": return x.ties(a[0]);
-            case "bound": return x.bound(a[0]);
-            case "given": return x.given(a[0]);
-            case "above": return x.above(a[0], a[1]);
-            case "line": return x.line(a[0]);
-            case "bends": return x.bends(a[0]);
-            case "climb": return x.climb(a[0]);
-            case "gap": return x.gap(a[0]);
-            case "times": return x.times(a[0]);
-            case "answers": return x.answers(a[0]);
-            case "rests": return x.rests();
-            case "spare": return x.spare(a[0], a[1]);
-            case "ceiling": return x.ceiling(a[0]);
-            case "without": return x.without(a[0], a[1]);
-            case "ford": return x.ford(a[0], a[1], a[2], a[3]);
-            case "weight": return x.weight(a[0], a[1]);
-            case "mean": return x.mean(a[0]);
-            case "safe": return x.safe(a[0]);
-            case "learn": return x.learn(a[0], a[1]);
-            case "last": return x.last(a[0]);
-            case "fair": return x.fair(a[0]);
-            case "count": return x.count(a[0]);
-            case "of":
-                try {
-                    return x.of(a[0], a[1]);
-                } catch (NoSuchElementException e) {
-                    return THROWN;
+    /** The answer of a call of that name, of the class or of the oracle. */
+    static int ask(Object x, String name, int... a) {
+        for (Method m : x.getClass().getDeclaredMethods()) {
+            if (m.getName().equals(name) && !Modifier.isStatic(m.getModifiers()) && !Modifier.isPrivate(m.getModifiers())) {
+                int taken = m.getParameterCount();
+                boolean ints = Arrays.stream(m.getParameterTypes()).allMatch(t -> t == int.class);
+                if (ints && taken <= a.length) {
+                    return call(x, m, Arrays.stream(a, 0, taken).boxed().toArray());
                 }
-            default:
-                try {
-                    return x.row(a[0]);
-                } catch (NoSuchElementException e) {
-                    return THROWN;
-                }
+            }
+        }
+        throw new IllegalStateException("no call " + name);
+    }
+
+    static int call(Object x, Method m, Object[] a) {
+        try {
+            m.setAccessible(true);
+            return (Integer) m.invoke(x, a);
+        } catch (InvocationTargetException e) {
+            if (e.getCause() instanceof NoSuchElementException) {
+                return THROWN;
+            }
+            throw new IllegalStateException(m.getName() + Arrays.toString(a), e.getCause());
+        } catch (IllegalAccessException e) {
+            throw new IllegalStateException(e);
         }
     }
 
-    static int ask(Oracle x, String name, int[] a) {
-        switch (name) {
-            case "toll": return x.toll(a[0], a[1]);
-            case "lean": return x.lean(a[0]);
-            case "way": return x.way(a[0], a[1]);
-            case "pains": return x.pains(a[0], a[1]);
-            case "room": return x.room(a[0], a[1]);
-            case "take": return x.take(a[0]);
-            case "suffered": return x.suffered();
-            case "by": return x.by(a[0]);
-            case "ways": return x.ways(a[0]);
-            case "best": return x.best(a[0]);
-            case "set": return x.set(a[0]);
-            case "ties": return x.ties(a[0]);
-            case "bound": return x.bound(a[0]);
-            case "given": return x.given(a[0]);
-            case "above": return x.above(a[0], a[1]);
-            case "line": return x.line(a[0]);
-            case "bends": return x.bends(a[0]);
-            case "climb": return x.climb(a[0]);
-            case "gap": return x.gap(a[0]);
-            case "times": return x.times(a[0]);
-            case "answers": return x.answers(a[0]);
-            case "rests": return x.rests();
-            case "spare": return x.spare(a[0], a[1]);
-            case "ceiling": return x.ceiling(a[0]);
-            case "without": return x.without(a[0], a[1]);
-            case "ford": return x.ford(a[0], a[1], a[2], a[3]);
-            case "weight": return x.weight(a[0], a[1]);
-            case "mean": return x.mean(a[0]);
-            case "safe": return x.safe(a[0]);
-            case "learn": return x.learn(a[0], a[1]);
-            case "last": return x.last(a[0]);
-            case "fair": return x.fair(a[0]);
-            case "count": return x.count(a[0]);
-            case "of":
-                try {
-                    return x.of(a[0], a[1]);
-                } catch (NoSuchElementException e) {
-                    return THROWN;
-                }
-            default:
-                try {
-                    return x.row(a[0]);
-                } catch (NoSuchElementException e) {
-                    return THROWN;
-                }
-        }
-    }
-
-    static String randomItem(Random r, int corners, int wildness) {
+    static String randomItem(Random r, int corners) {
         char a = (char) ('a' + r.nextInt(corners));
         char b = (char) ('a' + r.nextInt(corners));
         while (b == a) b = (char) ('a' + r.nextInt(corners));
@@ -1084,7 +1015,7 @@ public final class AgainstOracleTest {
         StringBuilder s = new StringBuilder();
         int items = 1 + r.nextInt(9);
         for (int i = 0; i < items; i++) {
-            String item = randomItem(r, corners, 0);
+            String item = randomItem(r, corners);
             if (s.length() + item.length() < 60 || r.nextInt(20) == 0) s.append(i > 0 && s.length() > 0 ? ";" : "").append(item);
         }
         String signs = "rtujmabcdefghi0123456789+*wcs/@-;";
