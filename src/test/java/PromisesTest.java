@@ -665,8 +665,12 @@ public final class PromisesTest {
         due("row", row(x), "0");
 
         promise = "33 safe";
+        x.way(0, 4);
+        x.toll(0, 1);
+        x.line(0);
         due("no weights", x.safe(0), -1);
-        due("row stays", row(x), "0");
+        due("row stays", row(x), "0 3 6 9 0 0 0");
+        x.toll(0, 0);
         x.weight(7, 1);
         due("world 7", x.safe(0), 9);
         x.weight(6, 1);
@@ -720,6 +724,11 @@ public final class PromisesTest {
         x = land("tab0;tab0;rab5;jab*1");
         due("two that are nothing alone", x.fair(1), 2);
         due("row", row(x), "5 2");
+        x = land("tab0;tab0;tbc0;rac5;jac*1");
+        due("one of two side by side", x.fair(0), 0);
+        due("row", row(x), "5 6");
+        due("the one behind them", x.fair(2), 3);
+        due("row", row(x), "10 3");
         x = land("m11;tab0;tab0;tab0;tab0;rab5;jab*1");
         due("too many sets", x.last(0), -1);
         due("too many sets", x.fair(0), -1);
