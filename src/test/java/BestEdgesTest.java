@@ -372,6 +372,22 @@ public final class BestEdgesTest {
             Hand.due("nothing to take", x.climb(0), 0);
             Hand.due("row", Hand.row(x), "0 5");
         });
+        Hand.promise(22, "up to cap, down to 0", () -> {
+            TollsThatPay x = Hand.land("tab0;jab*1");
+            Hand.due("up", x.climb(0), 1);
+            Hand.due("row", Hand.row(x), "6 6");
+            x = Hand.land("tab0;tbc0;rac4;jac*1");
+            Hand.ask(x, 5, 4);
+            Hand.due("down", x.climb(0), 1);
+            Hand.due("row", Hand.row(x), "4 0 4");
+        });
+        Hand.promise(22, "the other house's tolls stay, though it would pay to lower them", () -> {
+            TollsThatPay x = Hand.land("tab0;ubc0;rac4;jac*1");
+            x.toll(1, 6);
+            Hand.due("climb(0)", x.climb(0), 0);
+            Hand.due("row", Hand.row(x), "0 0");
+            Hand.due("gap(0)", x.gap(0), 0);
+        });
         Hand.promise(22, "a house's own roads alone", () -> {
             TollsThatPay x = Hand.land("uab0;tab0;rab4;jab*1");
             Hand.ask(x, 3, 6);

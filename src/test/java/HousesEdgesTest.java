@@ -62,6 +62,24 @@ public final class HousesEdgesTest {
             Hand.due("row", Hand.row(x), "12 0 6 0");
             Hand.due("tolls stay as they were", Hand.tolls(x), "0 0");
         });
+        Hand.promise(25, "-2: a short ring, a long one", () -> {
+            // those who know both take the cheaper one; two, or one, know that of house 0 alone
+            TollsThatPay x = Hand.land("m2;tab0;uab0;rab7;jab*8;jab*2s1");
+            Hand.due("2 0, 2 1, 1 1, 1 0", x.answers(4), -3);
+            Hand.due("2 0", x.answers(5), -2);
+            Hand.due("row", Hand.row(x), "4 0 2 0");
+            x = Hand.land("m5;tab0;uab0;rab4;jab*4;jba*1s1");
+            Hand.due("5 0, 5 4, 4 4, .. 1 1, 1 0", x.answers(10), -3);
+            Hand.due("5 0", x.answers(11), -2);
+            Hand.due("row", Hand.row(x), "5 0 5 0");
+        });
+        Hand.promise(25, "many answers", () -> {
+            TollsThatPay x = Hand.land("m20;tab0;uab0;rab20;jab*1");
+            Hand.ask(x, 20, 20);
+            Hand.due("down to 0 by 1 each", x.answers(42), -3);
+            Hand.due("and two that change nothing", x.answers(43), 41);
+            Hand.due("row", Hand.row(x), "0 0 0 0");
+        });
         Hand.promise(25, "tolls that were there behind an answer: not those of now", () -> {
             TollsThatPay x = Hand.land(RING);
             Hand.ask(x, 3, 0);
@@ -132,6 +150,24 @@ public final class HousesEdgesTest {
             Hand.due("rests()", x.rests(), 9);
             Hand.due("row", Hand.row(x), "0 2 0 2 0");
         });
+        Hand.promise(26, "any other set of its own: of more than one road", () -> {
+            TollsThatPay x = Hand.land("m2;tab0;tcd0;uab0;uef0;jab*1;jcd*1/1;jef*1/1");
+            Hand.due("0 1 0 1, 1 1 0 1, 1 1 1 1", x.rests(), 3);
+            Hand.due("row", Hand.row(x), "0 1 0 1 1 1");
+        });
+        Hand.promise(26, "the last set of all", () -> {
+            TollsThatPay x = Hand.land("m2;tab0;ucd0;jab*1;jcd*1");
+            Hand.due("rests()", x.rests(), 1);
+            Hand.due("row", Hand.row(x), "2 2 2 2");
+        });
+        Hand.promise(26, "again, by a lower cap", () -> {
+            TollsThatPay x = Hand.land("tab0;ucd0;jab*1;jcd*1");
+            x.rests();
+            Hand.due("row", Hand.row(x), "6 6 6 6");
+            Hand.tell(x, "m1");
+            Hand.due("rests()", x.rests(), 1);
+            Hand.due("row", Hand.row(x), "1 1 1 1");
+        });
         Hand.promise(26, "the tolls of now do not matter and stay", () -> {
             TollsThatPay x = Hand.land(RING);
             Hand.ask(x, 6, 5);
@@ -182,6 +218,11 @@ public final class HousesEdgesTest {
             Hand.due("all alike", x.spare(0, 2), 3);
             Hand.due("row", Hand.row(x), "3 0");
         });
+        Hand.promise(27, "nothing is less than 0", () -> {
+            TollsThatPay x = Hand.land("tab0;tcd0;jab*2");
+            Hand.due("spare(0, 1)", x.spare(0, 1), 0);
+            Hand.due("row", Hand.row(x), "1 0");
+        });
         Hand.promise(27, "the last roads' bits", () -> {
             TollsThatPay x = Hand.land(Hand.times("rgh1", 12), "tab0;tcd0;jab*1/4;jcd*1/5");
             Hand.due("spare(0, 1)", x.spare(0, 1), 4);
@@ -215,6 +256,13 @@ public final class HousesEdgesTest {
             x.lean(1);
             Hand.due("1 is as good as the ford, and nothing is paid by any cap", x.ceiling(0), 0);
             Hand.due("row", Hand.row(x), "6 0");
+        });
+        Hand.promise(28, "behind another question", () -> {
+            TollsThatPay x = Hand.land("tab2;rab5;jab*3");
+            x.spare(0, 0);
+            Hand.due("row", Hand.row(x), "0 9");
+            x.ceiling(0);
+            Hand.due("row", Hand.row(x), "0 0");
         });
         Hand.promise(28, "of equal ones the greatest", () -> {
             TollsThatPay x = Hand.land("tab2;jcd*3/4");
@@ -277,6 +325,18 @@ public final class HousesEdgesTest {
             Hand.due("not the ford behind", x.without(0, 0), 6);
             x = Hand.land("rcd1;tab2;jab*1s2");
             Hand.due("the bridge still", x.without(0, 0), 0);
+        });
+        Hand.promise(29, "the road is there still when a text is told", () -> {
+            TollsThatPay x = Hand.land("tab2;rab5;jab*3");
+            x.without(0, 1);
+            Hand.tell(x, "rcd1");
+            Hand.due("ways", x.ways(0), 2);
+            Hand.due("best(0)", x.best(0), 9);
+            x.without(0, 0);
+            Hand.tell(x, "m20");
+            Hand.due("best(0)", x.best(0), 9);
+            x.without(0, 0);
+            Hand.due("ford(0, 0, 1, 4)", x.ford(0, 0, 1, 4), 6 - 9);
         });
         Hand.promise(29, "no way is left", () -> Hand.due("none goes", Hand.land("tab0;rbc0;jac*2").without(0, 1), -12));
         Hand.promise(29, "the last road of 14", () -> {

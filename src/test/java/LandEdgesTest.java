@@ -214,6 +214,23 @@ public final class LandEdgesTest {
             Hand.due("goers", x.count(3), 6);
             Hand.due("suffered", x.suffered(), 0);
         });
+        Hand.promise(4, "what was told stays when another text is told", () -> {
+            TollsThatPay x = Hand.land("tab1+2;rab4;uab9", "jab*3c1-4s2/7@2", "jab*2w3@3", "m5", "rcd1");
+            for (int i = 0; i < 2; i++) {
+                Hand.due("goers", x.count(3), 5);
+                Hand.due("ways of slow ones", x.ways(0), 3);
+                Hand.due("ways", x.ways(1), 3);
+                Hand.due("pains", x.pains(0, 4), 4);
+                Hand.due("pains", x.pains(0, 1), 3);
+                Hand.due("suffered", x.suffered(), 3 * (3 + 4 + 4 + 4) + 2 * 4);
+                Hand.due("the worths of a crowd", x.learn(0, 3), 2);
+                x.times(0);
+                Hand.due("times", Hand.row(x), "0 0 3 0");
+                Hand.due("of 0", Hand.of(x, 0), "0 1 1 2 0 0");
+                Hand.due("of 2", Hand.of(x, 2), "0 1 9 0 1 0");
+                Hand.tell(x, i == 0 ? "ref1" : "q");
+            }
+        });
         Hand.promise(4, "the row stays", () -> {
             TollsThatPay x = Hand.land("tab2;rab5;jab*3");
             x.best(0);

@@ -202,6 +202,10 @@ public final class WaysEdgesTest {
             x.toll(1, 4);
             Hand.due("with its toll", x.room(0, 0), 6);
         });
+        Hand.promise(9, "0: another way of no pains", () -> {
+            Hand.due("free beside", Hand.land("tab0;rab0;tab5;jab*1").room(0, 0), 0);
+            Hand.due("tolled beside", Hand.land("tab0;tab0;tab5;jab*1").room(0, 0), 0);
+        });
         Hand.promise(9, "ways that it does not know are none", () ->
             Hand.due("slow", Hand.land("tab0;rab4;rab2;jab*1s2").room(0, 0), 4));
         Hand.promise(9, "-2: there is no such way", () -> {
@@ -262,6 +266,31 @@ public final class WaysEdgesTest {
             Hand.due("by(0)", x.by(0), 9);
             Hand.due("by(1)", x.by(1), 107);
             Hand.due("none goes", x.by(2), 0);
+        });
+        Hand.promise(12, "each road of a long way", () -> {
+            TollsThatPay x = Hand.land(Hand.times("rah99", 7), "rab1;rbc1;rcd1;rde1;ref1;rfg1;rgh1;jah*2;jha*3");
+            for (int road = 0; road < 14; road++) {
+                Hand.due("by(" + road + ")", x.by(road), road < 7 ? 0 : 5);
+            }
+        });
+        Hand.promise(12, "of the tolls of now, whatever was asked ahead", () -> {
+            TollsThatPay x = Hand.land("tab0;rab2;jab*3");
+            x.toll(0, 4);
+            for (int i = 0; i < 2; i++) {
+                x.best(0);
+                Hand.due("by", x.by(0) + " " + x.by(1), "0 3");
+                x.best(0);
+                Hand.due("way", way(x, 0, 0), "1: 1");
+                x.best(0);
+                Hand.due("pains", x.pains(0, 0), 2);
+                x.best(0);
+                Hand.due("room", x.room(0, 0), -2);
+                x.best(0);
+                Hand.due("take", x.take(0), 0);
+                x.best(0);
+                Hand.due("suffered", x.suffered(), 6);
+                x.spare(0, 1);
+            }
         });
         Hand.promise(12, "the last road of 14", () -> {
             TollsThatPay x = Hand.land(Hand.times("rab9", 12), "rab9;rab0;jab*5");
