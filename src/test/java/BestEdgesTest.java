@@ -383,9 +383,9 @@ public final class BestEdgesTest {
         });
         Hand.promise(22, "the other house's tolls stay, though it would pay to lower them", () -> {
             TollsThatPay x = Hand.land("tab0;ubc0;rac4;jac*1");
-            x.toll(1, 6);
+            Hand.ask(x, 3, 6);
             Hand.due("climb(0)", x.climb(0), 0);
-            Hand.due("row", Hand.row(x), "0 0");
+            Hand.due("row", Hand.row(x), "0 3");
             Hand.due("gap(0)", x.gap(0), 0);
         });
         Hand.promise(22, "a house's own roads alone", () -> {

@@ -160,6 +160,19 @@ public final class HousesEdgesTest {
             Hand.due("rests()", x.rests(), 1);
             Hand.due("row", Hand.row(x), "2 2 2 2");
         });
+        Hand.promise(26, "1728 of one house", () -> {
+            TollsThatPay x = Hand.land("m11;uab0;ucd0;uef0;jab*1");
+            Hand.due("rests()", x.rests(), 144);
+            Hand.due("row", Hand.row(x), "11 0 0 0 11");
+            x = Hand.land("m11;tab0;tcd0;tef0;jef*2");
+            Hand.due("rests()", x.rests(), 144);
+            Hand.due("row", Hand.row(x), "0 0 11 22 0");
+        });
+        Hand.promise(26, "1728 of both", () -> {
+            TollsThatPay x = Hand.land("m11;uab0;tcd0;uef0;jab*1;jcd*1;jef*1");
+            Hand.due("rests()", x.rests(), 1);
+            Hand.due("row", Hand.row(x), "11 11 11 11 22");
+        });
         Hand.promise(26, "again, by a lower cap", () -> {
             TollsThatPay x = Hand.land("tab0;ucd0;jab*1;jcd*1");
             x.rests();
@@ -167,6 +180,12 @@ public final class HousesEdgesTest {
             Hand.tell(x, "m1");
             Hand.due("rests()", x.rests(), 1);
             Hand.due("row", Hand.row(x), "1 1 1 1");
+            x = Hand.land("tab0;jab*1");
+            x.rests();
+            Hand.due("row", Hand.row(x), "6 6 0");
+            Hand.tell(x, "m1");
+            Hand.due("rests()", x.rests(), 1);
+            Hand.due("row", Hand.row(x), "1 1 0");
         });
         Hand.promise(26, "the tolls of now do not matter and stay", () -> {
             TollsThatPay x = Hand.land(RING);
@@ -337,6 +356,12 @@ public final class HousesEdgesTest {
             Hand.due("best(0)", x.best(0), 9);
             x.without(0, 0);
             Hand.due("ford(0, 0, 1, 4)", x.ford(0, 0, 1, 4), 6 - 9);
+        });
+        Hand.promise(29, "none goes by it, from wherever", () -> {
+            Hand.due("the ford, from b to a", Hand.land("tab2;rab5;jba*3").without(0, 1), 18 - 9);
+            Hand.due("the bridge, from b to a", Hand.land("tab0;rab3;jba*1").without(0, 0), -3);
+            Hand.due("the ford, from c to b", Hand.land("tcb2;rcb5;jcb*3;rac0;rab0").without(0, 1), 0);
+            Hand.due("the ways round by a", Hand.land("tcb2;rcb5;jcb*3;rac0;rab0").without(0, 3), 9);
         });
         Hand.promise(29, "no way is left", () -> Hand.due("none goes", Hand.land("tab0;rbc0;jac*2").without(0, 1), -12));
         Hand.promise(29, "the last road of 14", () -> {
